@@ -365,6 +365,7 @@ public final class EvenTown {
                 kind = AT_END;
             } else if (isLetter(bytes[next])) {
                 stepWord();
+                kind = next - at > 8 ? NO_TOKEN : kindOf(word);
             } else if (isDigit(bytes[next])) {
                 stepNumber();
             } else {
@@ -380,7 +381,6 @@ public final class EvenTown {
                 word = word * 32 + (bytes[next] - 'a' + 1);
                 next++;
             }
-            kind = next - at > 8 ? NO_TOKEN : kindOf(word);
         }
 
         private void stepNumber() {
