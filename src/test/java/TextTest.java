@@ -272,7 +272,7 @@ final class TextTest {
     }
 
     private static int checkTown(String text) {
-        EvenTown x = new EvenTown();
+        Used x = new Used();
         Reader reader = new Reader(text);
         int kind = 0;
         int at = EvenTown.NONE;
@@ -282,7 +282,7 @@ final class TextTest {
             kind = fault.kind;
             at = fault.at;
         }
-        Check.due("town " + text, Check.town(x, text), kind == 0 ? reader.persons.size() : EvenTown.NONE);
+        Check.due("town " + text, x.town(text), kind == 0 ? reader.persons.size() : EvenTown.NONE);
         Check.due("fault of " + text, x.fault(0), kind);
         Check.due("fault's place of " + text, x.fault(1), at);
         Check.due("units of " + text, x.about(10), kind == 0 ? reader.units : 0);
@@ -291,10 +291,10 @@ final class TextTest {
     }
 
     private static int checkPlan(String text, Random random) {
-        EvenTown x = new EvenTown();
+        Used x = new Used();
         String town = "place a;place b;place p;person p at a hire 1;person q at b hire 1;person r at a hire 1;"
                 + "dog g at a;strokes " + (1 + random.nextInt(8)) + ";";
-        Check.town(x, town);
+        x.town(town);
         Reader reader = new Reader(text);
         Reader townReader = new Reader(town);
         townReader.town();
@@ -310,7 +310,7 @@ final class TextTest {
             kind = fault.kind;
             at = fault.at;
         }
-        Check.due("plan " + text, Check.plan(x, text), lines);
+        Check.due("plan " + text, x.plan(text), lines);
         Check.due("fault of " + text, x.fault(0), kind);
         Check.due("fault's place of " + text, x.fault(1), at);
         return kind;
