@@ -1073,8 +1073,7 @@ public final class EvenTown {
 
         /** What the plan is worth on such a day; GAP, if it is not lawful, or misses what must be done. */
         int worthOn(Day day) {
-            judgeIn(day.town);
-            if (!day.possible || judgedKind == 1 || judgedKind == 2) {
+            if (!day.possible) {
                 return GAP;
             }
             int worth = 0;

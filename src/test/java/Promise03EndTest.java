@@ -10,6 +10,7 @@ final class Promise03EndTest {
         refusesBelowZero();
         doesNothingWhenRefused();
         forgetsWhatItCuts();
+        readsNothingBehindTheEnd();
         endsAnEmptyTape();
         endsAFullTape();
         Check.close();
@@ -83,6 +84,31 @@ final class Promise03EndTest {
         Check.due("longer again", x.end(1), NONE);
         Check.due("a town of no text", x.town(), 0);
         Check.due("no places", x.about(0), 0);
+    }
+
+    private static void readsNothingBehindTheEnd() {
+        Check.sentence("The TAPE has its first n bytes: a text ends there");
+        faultOfCut("hours;", 4, 2, 4);
+        faultOfCut("hour 55;", 6, 2, 6);
+        faultOfCut("rule 12345;", 9, 2, 9);
+        faultOfCut("hour 5a;", 6, 2, 6);
+        faultOfCut("place abcdefghi;", 14, 2, 14);
+        faultOfCut("place a  ;", 8, 2, 8);
+        faultOfCut("place a;?", 8, 0, NONE);
+        faultOfCut("place a;#place b;", 8, 0, NONE);
+        Used x = new Used();
+        x.town("hourhourhourhourhourhour");
+        Check.due("a shorter text behind a longer one", x.town("hour"), NONE);
+        Check.due("its place", x.fault(1), 4);
+    }
+
+    private static void faultOfCut(String text, int n, int kind, int at) {
+        Used x = new Used();
+        x.tape(text);
+        x.end(n);
+        x.town();
+        Check.due("fault of the first " + n + " of " + text, x.fault(0), kind);
+        Check.due("its place", x.fault(1), at);
     }
 
     private static void endsAnEmptyTape() {

@@ -31,6 +31,7 @@ final class Promise04TownTest {
         changesNothingAtAFault();
         keepsBoxesAndSentAtAFault();
         forgetsTheOldTown();
+        isAsInANewObject();
         Check.close();
     }
 
@@ -455,6 +456,34 @@ final class Promise04TownTest {
         Check.due("states", x.states(1, 0), 1);
         x.town("place a;place b;place c;person p at b hire 0;person q at b hire 0;");
         Check.due("a is not told empty now", x.right(0, 2, 1), 1);
+    }
+
+    /** Whatever texts came ahead, with faults or without, and whatever was asked of them. */
+    private static void isAsInANewObject() {
+        Check.sentence("The TAPE is the TOWN: as if it were the first");
+        String rich = Texts.FOUR + "dog d at a;dog e at a;rule here < 4 or dogs;hour 99;";
+        String[] towns = {rich, "place a empty;place b;place c;person p at b hire 0;person q at b hire 0;",
+            "place a;place b empty;place c;person p at a hire 5;person q at c hire 4;person r at c hire 3;"
+                + "way a c minutes 9;errand p at c stroke 3 worth 77;rule here > 0 or place = 1 or stroke = 2;strokes 4;"};
+        String[] ahead = {rich, towns[1], towns[2], "", rich + "rule 1;", "place z empty;dog y at z;strokes 8;hour 0;"};
+        for (String first : ahead) {
+            for (String second : ahead) {
+                for (String town : towns) {
+                    Used x = new Used();
+                    x.town(first);
+                    Seen.ofOtherDays(x);
+                    x.states(1, 0);
+                    x.town(second);
+                    Seen.ofOtherDays(x);
+                    x.plan("p a b;q c;");
+                    Check.due("town", x.town(town) != NONE, true);
+                    Used fresh = Used.of(town);
+                    Seen.same("behind " + first + " and " + second, x, Seen.of(fresh));
+                    String days = Seen.ofOtherDays(fresh);
+                    Check.due("other days of " + town + " behind " + second, Seen.ofOtherDays(x).equals(days), true);
+                }
+            }
+        }
     }
 
     private Promise04TownTest() {

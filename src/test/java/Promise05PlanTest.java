@@ -18,6 +18,7 @@ final class Promise05PlanTest {
         tellsEachPersonOnce();
         takesThePlaceOfTheOlderOne();
         isNoneBehindAnotherTown();
+        isAsTheFirstOne();
         standsApartFromEarnest();
         Check.close();
     }
@@ -189,6 +190,28 @@ final class Promise05PlanTest {
         x.plan("p y");
         x.town("place a;");
         Check.due("behind a fault, too", x.value(0), 0);
+    }
+
+    /** Whatever plans came ahead, with faults or without. */
+    private static void isAsTheFirstOne() {
+        Check.sentence("who is not told stays at HOME, behind the last told one they stay there: whatever was told ahead");
+        String[] plans = {"", "p b c;q b c;", "r a;s a;", "p b;q b;r c c;s c c;", "s c;r c;", "p b c;q b c", "s a;r c b;?"};
+        for (String first : plans) {
+            for (String second : plans) {
+                for (int last = 0; last < 5; last++) {
+                    Used x = Used.of(Texts.FOUR);
+                    x.plan(first);
+                    x.plan(second);
+                    x.plan(plans[last]);
+                    Used fresh = Used.of(Texts.FOUR);
+                    fresh.plan(plans[last]);
+                    for (int what = 0; what < 3; what++) {
+                        Check.due("value of " + plans[last], x.value(what), fresh.value(what));
+                        Check.due("judge of " + plans[last], x.judge(what), fresh.judge(what));
+                    }
+                }
+            }
+        }
     }
 
     private static void standsApartFromEarnest() {

@@ -50,7 +50,7 @@ final class Promise06FaultTest {
         Check.due("what 1", x.fault(1), 14);
         Check.due("what 2", x.fault(2), NONE);
         Check.due("what -1", x.fault(-1), NONE);
-        for (int what : Texts.FAR_OFF) {
+        for (int what : Texts.NO_INDEX) {
             Check.due("what " + what, x.fault(what), NONE);
         }
     }
@@ -146,6 +146,12 @@ final class Promise06FaultTest {
             fault(start + "\n", 2, start.length() + 1);
         }
         fault("place a" + " ".repeat(1593), 2, 1600);
+        fault(" ".repeat(1596) + "hour", 2, 1600);
+        fault(" ".repeat(1594) + "hour 5", 2, 1600);
+        fault(" ".repeat(1591) + "hour 1234", 4, 1596);
+        fault(" ".repeat(1590) + "hour 12345", 1, 1595);
+        fault(" ".repeat(1591) + "abcdefghi", 1, 1591);
+        fault(" ".repeat(1599) + "(", 2, 1599);
     }
 
     private static void cannotStandThere() {

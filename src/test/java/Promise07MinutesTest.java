@@ -49,7 +49,7 @@ final class Promise07MinutesTest {
             Check.due("the first is " + place, x.minutes(place, 0), NONE);
             Check.due("both are " + place, x.minutes(place, place), NONE);
         }
-        for (int place : Texts.FAR_OFF) {
+        for (int place : Texts.NO_INDEX) {
             Check.due("the second is " + place, x.minutes(2, place), NONE);
             Check.due("the first is " + place, x.minutes(place, 2), NONE);
             Check.due("both are " + place, x.minutes(place, place), NONE);

@@ -47,7 +47,7 @@ final class Promise08RightTest {
         x = Used.of(Texts.SIX_PLACES + "rule 1;");
         Check.due("5", x.right(5, 0, 1), 1);
         Check.due("6", x.right(6, 0, 1), NONE);
-        for (int place : Texts.FAR_OFF) {
+        for (int place : Texts.NO_INDEX) {
             Check.due("place " + place, x.right(place, 0, 1), NONE);
         }
     }
@@ -60,7 +60,7 @@ final class Promise08RightTest {
         Check.due("5", x.right(0, 5, 1), 1);
         Check.due("6", x.right(0, 6, 1), NONE);
         Check.due("6 at the last place", x.right(1, 6, 1), NONE);
-        for (int many : Texts.FAR_OFF) {
+        for (int many : Texts.NO_INDEX) {
             Check.due("many " + many, x.right(0, many, 1), NONE);
         }
     }
@@ -75,7 +75,7 @@ final class Promise08RightTest {
         Check.due("-1", x.right(0, 0, -1), NONE);
         Check.due("31", x.right(0, 0, 31), NONE);
         Check.due("33", x.right(0, 0, 33), NONE);
-        for (int stroke : Texts.FAR_OFF) {
+        for (int stroke : Texts.NO_INDEX) {
             Check.due("stroke " + stroke, x.right(0, 0, stroke), NONE);
         }
     }

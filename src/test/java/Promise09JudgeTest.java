@@ -36,7 +36,7 @@ final class Promise09JudgeTest {
         Check.due("what 2", x.judge(2), 0);
         Check.due("what 3", x.judge(3), NONE);
         Check.due("what -1", x.judge(-1), NONE);
-        for (int what : Texts.FAR_OFF) {
+        for (int what : Texts.NO_INDEX) {
             Check.due("what " + what, x.judge(what), NONE);
         }
     }

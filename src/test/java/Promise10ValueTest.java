@@ -7,6 +7,7 @@ final class Promise10ValueTest {
         isByThree();
         isNoneWhenItDoesNotGo();
         isNoneWhenNotRight();
+        isNoneBehindAnErrandNotDone();
         isWorthLessHire();
         isLessCompanions();
         isLessMinutes();
@@ -34,7 +35,7 @@ final class Promise10ValueTest {
         }
         Check.due("what 3", x.value(3), GAP);
         Check.due("what -1", x.value(-1), GAP);
-        for (int what : Texts.FAR_OFF) {
+        for (int what : Texts.NO_INDEX) {
             Check.due("what " + what, x.value(what), GAP);
         }
     }
@@ -59,6 +60,17 @@ final class Promise10ValueTest {
         valued(x, "p a a b;q a a b;", GAP, GAP, GAP);
         valued(Used.of("place a;place b;rule place = 0 or stroke < 3;"), "", GAP, GAP, GAP);
         valued(Used.of("place a;place b;rule place = 0 or stroke < 4;"), "", 0, 0, 0);
+    }
+
+    private static void isNoneBehindAnErrandNotDone() {
+        Check.sentence("GAP if it has none: it is LAWFUL at the first STROKES, where an ERRAND is not DONE");
+        Used x = Used.of(Texts.THREE + "person p at a hire 0;person q at a hire 0;errand p at b stroke 1 worth 9;");
+        valued(x, "", 0, GAP, GAP);
+        valued(x, "p a b;", GAP, GAP, GAP);
+        valued(x, "p a a b;", GAP, GAP, GAP);
+        valued(x, "p a c;q a c;", GAP, GAP, GAP);
+        valued(x, "p a a c;q a a c;", GAP, GAP, GAP);
+        valued(x, "p a b c;q a b c;", 0, GAP, GAP);
     }
 
     private static void isWorthLessHire() {

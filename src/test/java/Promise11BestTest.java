@@ -34,7 +34,7 @@ final class Promise11BestTest {
         }
         Check.due("what 3", x.best(3), GAP);
         Check.due("what -1", x.best(-1), GAP);
-        for (int what : Texts.FAR_OFF) {
+        for (int what : Texts.NO_INDEX) {
             Check.due("what " + what, x.best(what), GAP);
         }
     }

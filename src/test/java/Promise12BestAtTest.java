@@ -45,7 +45,7 @@ final class Promise12BestAtTest {
         Used x = Used.of(Texts.FOUR);
         Check.due("what 3", x.bestAt(3, 1, 0), NONE);
         Check.due("what -1", x.bestAt(-1, 1, 0), NONE);
-        for (int what : Texts.FAR_OFF) {
+        for (int what : Texts.NO_INDEX) {
             Check.due("what " + what, x.bestAt(what, 1, 0), NONE);
         }
     }
@@ -60,7 +60,7 @@ final class Promise12BestAtTest {
         Check.due("8", x.bestAt(0, 8, 0), NONE);
         Check.due("9", x.bestAt(0, 9, 0), NONE);
         Check.due("-1", x.bestAt(0, -1, 0), NONE);
-        for (int stroke : Texts.FAR_OFF) {
+        for (int stroke : Texts.NO_INDEX) {
             Check.due("stroke " + stroke, x.bestAt(0, stroke, 0), NONE);
         }
         x = Used.of("place a;place b;way a b minutes 1;rule 1;strokes 8;person p at a hire 0;"
@@ -76,7 +76,7 @@ final class Promise12BestAtTest {
         Check.due("4", x.bestAt(0, 1, 4), NONE);
         Check.due("-1", x.bestAt(0, 1, -1), NONE);
         Check.due("5", x.bestAt(0, 1, 5), NONE);
-        for (int person : Texts.FAR_OFF) {
+        for (int person : Texts.NO_INDEX) {
             Check.due("person " + person, x.bestAt(0, 1, person), NONE);
         }
         x = Used.of("place a;rule 1;" + Texts.persons(5, 0));

@@ -14,6 +14,7 @@ final class Promise13BreaksTest {
         freesPlacesToldEmpty();
         freesNoOtherStroke();
         isNoWorseThanTheBest();
+        isOfThisTown();
         hasErrandsToBeDone();
         leavesAllAsItWas();
         Check.close();
@@ -42,7 +43,7 @@ final class Promise13BreaksTest {
         Check.due("part 1", x.breaks(0, 1), GAP);
         Check.due("part 2", x.breaks(0, 2), GAP);
         Check.due("part -2", x.breaks(0, -2), GAP);
-        for (int part : Texts.FAR_OFF) {
+        for (int part : Texts.NO_INDEX) {
             Check.due("part " + part, x.breaks(0, part), GAP);
         }
     }
@@ -53,7 +54,7 @@ final class Promise13BreaksTest {
         for (int part = -1; part <= 0; part++) {
             Check.due("what 3", x.breaks(3, part), GAP);
             Check.due("what -1", x.breaks(-1, part), GAP);
-            for (int what : Texts.FAR_OFF) {
+            for (int what : Texts.NO_INDEX) {
                 Check.due("what " + what, x.breaks(what, part), GAP);
             }
         }
@@ -128,6 +129,18 @@ final class Promise13BreaksTest {
         breaks(x, 0, 8, 1);
         breaks(x, 1, 0, 1);
         breaks(x, 2, -10, 1);
+    }
+
+    private static void isOfThisTown() {
+        Check.sentence("BREAK by what: of the TOWN that there is");
+        Used x = Used.of("place a;rule not stroke = 2;");
+        for (int what = 0; what < 3; what++) {
+            breaks(x, what, 0, 2);
+        }
+        x.town("place a;rule not stroke = 3;");
+        for (int what = 0; what < 3; what++) {
+            breaks(x, what, 0, 3);
+        }
     }
 
     private static void hasErrandsToBeDone() {

@@ -44,7 +44,7 @@ final class Promise14SpareTest {
             Check.due("place -1", x.spare(-1, what), GAP);
             Check.due("place 6", x.spare(6, what), GAP);
         }
-        for (int place : Texts.FAR_OFF) {
+        for (int place : Texts.NO_INDEX) {
             Check.due("place " + place, x.spare(place, 0), GAP);
         }
         x = Used.of(Texts.SIX_PLACES);
@@ -58,7 +58,7 @@ final class Promise14SpareTest {
         Used x = Used.of(Texts.FOUR);
         Check.due("what 3", x.spare(0, 3), GAP);
         Check.due("what -1", x.spare(0, -1), GAP);
-        for (int what : Texts.FAR_OFF) {
+        for (int what : Texts.NO_INDEX) {
             Check.due("what " + what, x.spare(0, what), GAP);
         }
     }

@@ -34,7 +34,7 @@ final class Promise15OftenTest {
         for (int n : new int[] {1, 0, -1, -2, 9, 10}) {
             Check.due(n + " times", x.often(n, 0), GAP);
         }
-        for (int n : Texts.FAR_OFF) {
+        for (int n : Texts.NO_INDEX) {
             Check.due(n + " times", x.often(n, 0), GAP);
         }
     }
@@ -44,7 +44,7 @@ final class Promise15OftenTest {
         Used x = Used.of("place a;strokes 1;");
         Check.due("what 3", x.often(2, 3), GAP);
         Check.due("what -1", x.often(2, -1), GAP);
-        for (int what : Texts.FAR_OFF) {
+        for (int what : Texts.NO_INDEX) {
             Check.due("what " + what, x.often(2, what), GAP);
         }
     }

@@ -62,7 +62,7 @@ final class Promise16BuiltTest {
         for (int part = -1; part <= 0; part++) {
             Check.due("what 3", x.built(20, 3, part), GAP);
             Check.due("what -1", x.built(20, -1, part), GAP);
-            for (int what : Texts.FAR_OFF) {
+            for (int what : Texts.NO_INDEX) {
                 Check.due("what " + what, x.built(20, what, part), GAP);
             }
         }
@@ -73,7 +73,7 @@ final class Promise16BuiltTest {
         Used x = Used.of(Texts.FOUR);
         Check.due("part 1", x.built(20, 0, 1), GAP);
         Check.due("part -2", x.built(20, 0, -2), GAP);
-        for (int part : Texts.FAR_OFF) {
+        for (int part : Texts.NO_INDEX) {
             Check.due("part " + part, x.built(20, 0, part), GAP);
         }
     }
@@ -174,6 +174,14 @@ final class Promise16BuiltTest {
                 + "person q at b hire 1;person r at c hire 1;person s at d hire 1;strokes 1;errand p at c stroke 1 worth 9;"
                 + "errand q at d stroke 1 worth 9;errand r at b stroke 1 worth 9;errand s at a stroke 1 worth 9;");
         built(x, 20, 2, -100, 2);
+        x = Used.of("place a;place b;place c;place d;way a b minutes 1;rule 1;strokes 1;person p at d hire 1;"
+                + "person q at d hire 1;person r at d hire 1;errand p at b stroke 1 worth 9;"
+                + "errand q at b stroke 1 worth 9;errand r at a stroke 1 worth 9;");
+        built(x, 5, 2, -16, 103);
+        x = Used.of("place a;place b;place c;place d;way c d minutes 1;rule 1;strokes 1;person p at a hire 1;"
+                + "person q at a hire 1;person r at a hire 1;errand p at c stroke 1 worth 9;"
+                + "errand q at c stroke 1 worth 9;errand r at d stroke 1 worth 9;");
+        built(x, 5, 2, -16, 2);
     }
 
     private static void isBuiltWhenAllWaysAre() {

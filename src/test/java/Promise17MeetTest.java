@@ -62,7 +62,7 @@ final class Promise17MeetTest {
             Check.due("person " + person, x.meet(person, 0, 0), NONE);
             Check.due("person " + person, x.meet(person, person, 0), NONE);
         }
-        for (int person : Texts.FAR_OFF) {
+        for (int person : Texts.NO_INDEX) {
             Check.due("person " + person, x.meet(0, person, 0), NONE);
             Check.due("person " + person, x.meet(person, 0, 0), NONE);
         }
@@ -75,7 +75,7 @@ final class Promise17MeetTest {
         Used x = Used.of(Texts.FOUR);
         Check.due("place 3", x.meet(0, 1, 3), NONE);
         Check.due("place -1", x.meet(0, 1, -1), NONE);
-        for (int place : Texts.FAR_OFF) {
+        for (int place : Texts.NO_INDEX) {
             Check.due("place " + place, x.meet(0, 1, place), NONE);
         }
         x = Used.of(Texts.SIX_PLACES + Texts.allWays(1) + Texts.persons(2, 0));
@@ -120,6 +120,11 @@ final class Promise17MeetTest {
         Check.due("at a one does", x.meet(0, 1, 0), 1);
         Check.due("at c one does", x.meet(0, 1, 2), 1);
         Check.due("from b to c in 18", Used.of(town + "18;").meet(0, 1, 1), 1);
+        x = Used.of("place a;place b;place c;way a b minutes 60;way b c minutes 60;strokes 3;person p at b hire 0;"
+                + "person q at b hire 0;rule stroke = 1 or place = 2 or here = 0 or place = 0 and stroke = 2;");
+        Check.due("from a nobody is at c at 3, but by b", x.meet(0, 1, 0), NONE);
+        Check.due("at b", x.meet(0, 1, 1), 1);
+        Check.due("at c", x.meet(0, 1, 2), 1);
         x = Used.of("place a;rule not stroke = 8;strokes 8;" + Texts.persons(2, 0));
         Check.due("not right at the last", x.meet(0, 1, 0), NONE);
     }

@@ -28,7 +28,7 @@ final class Promise19WhereTest {
         Check.due("the last", x.where(3), 1);
         Check.due("behind the last", x.where(4), NONE);
         Check.due("ahead of the first", x.where(-1), NONE);
-        for (int person : Texts.FAR_OFF) {
+        for (int person : Texts.NO_INDEX) {
             Check.due("person " + person, x.where(person), NONE);
         }
         x = Used.of("place a;dog d at a;" + Texts.persons(5, 0));

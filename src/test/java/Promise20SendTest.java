@@ -35,7 +35,7 @@ final class Promise20SendTest {
         Used x = Used.of(Texts.FOUR);
         Check.due("4", x.send(4, 0), false);
         Check.due("-1", x.send(-1, 0), false);
-        for (int person : Texts.FAR_OFF) {
+        for (int person : Texts.NO_INDEX) {
             Check.due("person " + person, x.send(person, 0), false);
         }
         x = Used.of("place a;" + Texts.persons(5, 0));
@@ -48,7 +48,7 @@ final class Promise20SendTest {
         Used x = Used.of(Texts.FOUR);
         Check.due("3", x.send(0, 3), false);
         Check.due("-1", x.send(0, -1), false);
-        for (int place : Texts.FAR_OFF) {
+        for (int place : Texts.NO_INDEX) {
             Check.due("place " + place, x.send(0, place), false);
         }
         x = Used.of(Texts.SIX_PLACES + Texts.allWays(60) + Texts.persons(1, 0));

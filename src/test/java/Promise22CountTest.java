@@ -33,7 +33,7 @@ final class Promise22CountTest {
         Check.due("0", x.count(0, 0, 0), NONE);
         Check.due("9", x.count(9, 0, 0), NONE);
         Check.due("-1", x.count(-1, 0, 0), NONE);
-        for (int stroke : Texts.FAR_OFF) {
+        for (int stroke : Texts.NO_INDEX) {
             Check.due("stroke " + stroke, x.count(stroke, 0, 0), NONE);
         }
         Check.due("1", x.count(1, 0, 0), 0);
@@ -45,7 +45,7 @@ final class Promise22CountTest {
         Used x = Used.of(Texts.FOUR);
         Check.due("3", x.count(1, 3, 0), NONE);
         Check.due("-1", x.count(1, -1, 0), NONE);
-        for (int place : Texts.FAR_OFF) {
+        for (int place : Texts.NO_INDEX) {
             Check.due("place " + place, x.count(1, place, 0), NONE);
         }
         Check.due("0", x.count(1, 0, 0), 0);
@@ -61,7 +61,7 @@ final class Promise22CountTest {
         Used x = Used.of(Texts.FOUR);
         Check.due("6", x.count(1, 0, 6), NONE);
         Check.due("-1", x.count(1, 0, -1), NONE);
-        for (int many : Texts.FAR_OFF) {
+        for (int many : Texts.NO_INDEX) {
             Check.due("many " + many, x.count(1, 0, many), NONE);
         }
         Check.due("0", x.count(1, 0, 0), 0);
@@ -147,10 +147,14 @@ final class Promise22CountTest {
         for (int i = 0; i < 40; i++) {
             x.count(1, 2, 2);
         }
+        x.untell(0);
         x.town(Texts.FOUR);
         Check.due("about 5", x.about(5), 0);
         Check.due("the first again", x.count(2, 2, 2), 0);
         Check.due("that of before does not count", x.states(1, 0), 9);
+        Check.due("it counts, untold though one of its number was", x.states(2, 0), 12);
+        Check.due("untell", x.untell(0), true);
+        Check.due("no more", x.states(2, 0), 21);
     }
 
     private Promise22CountTest() {

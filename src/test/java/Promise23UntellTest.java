@@ -35,7 +35,7 @@ final class Promise23UntellTest {
         Check.due("-1", x.untell(-1), false);
         Check.due("39", x.untell(39), false);
         Check.due("40", x.untell(40), false);
-        for (int count : Texts.FAR_OFF) {
+        for (int count : Texts.NO_INDEX) {
             Check.due("count " + count, x.untell(count), false);
         }
         Check.due("0 of one", x.untell(0), true);

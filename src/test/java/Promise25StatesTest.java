@@ -29,7 +29,7 @@ final class Promise25StatesTest {
         Check.due("8", x.states(8, 0), NONE);
         Check.due("9", x.states(9, 0), NONE);
         Check.due("-1", x.states(-1, 0), NONE);
-        for (int stroke : Texts.FAR_OFF) {
+        for (int stroke : Texts.NO_INDEX) {
             Check.due("stroke " + stroke, x.states(stroke, 0), NONE);
         }
         for (int strokes = 1; strokes <= 8; strokes++) {
@@ -144,6 +144,12 @@ final class Promise25StatesTest {
         Check.due("at a at first: at 2", x.states(2, 0), 1);
         x.count(2, 1, 0);
         Check.due("by b alone", x.states(1, 0), 0);
+        x = Used.of("place a;place b;place c;way a b minutes 60;way b c minutes 60;rule 1;strokes 3;"
+                + "person p at b hire 0;");
+        x.count(3, 2, 1);
+        x.count(2, 1, 0);
+        Check.due("not from a by b to c", x.states(1, 0), 2);
+        Check.due("at c at 2", x.states(2, 0), 1);
     }
 
     private static void isAllThereCanBe() {

@@ -21,7 +21,7 @@ final class Promise26SureTest {
         Used x = Used.of(Texts.FOUR);
         Check.due("4", x.sure(4, 0, 1, 0), NONE);
         Check.due("-1", x.sure(-1, 0, 1, 0), NONE);
-        for (int person : Texts.FAR_OFF) {
+        for (int person : Texts.NO_INDEX) {
             Check.due("person " + person, x.sure(person, 0, 1, 0), NONE);
         }
         Check.due("3", x.sure(3, 0, 1, 0), 1);
@@ -36,7 +36,7 @@ final class Promise26SureTest {
         Used x = Used.of(Texts.FOUR);
         Check.due("3", x.sure(0, 3, 1, 0), NONE);
         Check.due("-1", x.sure(0, -1, 1, 0), NONE);
-        for (int place : Texts.FAR_OFF) {
+        for (int place : Texts.NO_INDEX) {
             Check.due("place " + place, x.sure(0, place, 1, 0), NONE);
         }
         Check.due("2", x.sure(2, 2, 1, 0), 1);
@@ -55,7 +55,7 @@ final class Promise26SureTest {
         Check.due("8", x.sure(0, 0, 8, 0), NONE);
         Check.due("9", x.sure(0, 0, 9, 0), NONE);
         Check.due("-1", x.sure(0, 0, -1, 0), NONE);
-        for (int stroke : Texts.FAR_OFF) {
+        for (int stroke : Texts.NO_INDEX) {
             Check.due("stroke " + stroke, x.sure(0, 0, stroke, 0), NONE);
         }
         x = Used.of("place a;rule 1;strokes 8;" + Texts.persons(1, 0));

@@ -35,7 +35,7 @@ final class Promise27ImageTest {
         Used x = Used.of(Texts.FOUR);
         Check.due("3", x.image(3), NONE);
         Check.due("-1", x.image(-1), NONE);
-        for (int box : Texts.FAR_OFF) {
+        for (int box : Texts.NO_INDEX) {
             Check.due("box " + box, x.image(box), NONE);
         }
     }

@@ -38,7 +38,7 @@ final class Promise28BackTest {
         }
         Check.due("3", x.back(3), NONE);
         Check.due("-1", x.back(-1), NONE);
-        for (int box : Texts.FAR_OFF) {
+        for (int box : Texts.NO_INDEX) {
             Check.due("box " + box, x.back(box), NONE);
         }
     }

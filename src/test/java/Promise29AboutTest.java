@@ -31,7 +31,7 @@ final class Promise29AboutTest {
             Check.due("13", x.about(13), NONE);
             Check.due("14", x.about(14), NONE);
             Check.due("-1", x.about(-1), NONE);
-            for (int what : Texts.FAR_OFF) {
+            for (int what : Texts.NO_INDEX) {
                 Check.due("about " + what, x.about(what), NONE);
             }
         }

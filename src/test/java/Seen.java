@@ -31,6 +31,23 @@ final class Seen {
         return seen.toString();
     }
 
+    /** What is asked of days that are not: 30 calls. */
+    static String ofOtherDays(Used x) {
+        StringBuilder seen = new StringBuilder();
+        for (int what = 0; what < 3; what++) {
+            for (int part = -1; part <= 0; part++) {
+                add(seen, x.breaks(what, part));
+                add(seen, x.built(7, what, part));
+            }
+            add(seen, x.often(2, what));
+            for (int i = 0; i < 3; i++) {
+                add(seen, x.spare(i, what));
+                add(seen, what == 0 ? x.meet(0, 1, i) : 0);
+            }
+        }
+        return seen.toString();
+    }
+
     private static void add(StringBuilder seen, int number) {
         seen.append(number).append(' ');
     }

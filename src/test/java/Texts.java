@@ -8,8 +8,12 @@ final class Texts {
     /** The words that stand for themselves in a town's text. */
     static final String[] OWN_WORDS = {"place", "empty", "way", "minutes", "person", "at", "hire", "dog", "errand",
         "stroke", "worth", "hour", "strokes", "rule", "or", "and", "not", "here", "dogs"};
-    /** Numbers that no call but fault's k takes: too small or too large by far. */
+    /** Numbers that no call takes, but for k: too small or too large by far, some of them small times 6, 8 or 16. */
     static final int[] FAR_OFF = {Integer.MIN_VALUE, Integer.MIN_VALUE + 1, -1000000, -65536, -256, -2, 1000000, 65536,
+        1 << 28, (1 << 29) + 1, 0x2AAAAAAB, 1 << 30, Integer.MAX_VALUE - 1, Integer.MAX_VALUE};
+    /** And such that are no number of a place, a person, a stroke, a box and so on, whatever bits are cut off. */
+    static final int[] NO_INDEX = {Integer.MIN_VALUE, Integer.MIN_VALUE + 1, -1000000, -65536, -256, -255, -32, -31, -2,
+        31, 32, 33, 63, 64, 65, 255, 256, 257, 65536, 65537, 1000000, 1 << 28, (1 << 29) + 1, 0x2AAAAAAB, 1 << 30,
         Integer.MAX_VALUE - 1, Integer.MAX_VALUE};
 
     /** So many persons, p and on, all at place a. */
