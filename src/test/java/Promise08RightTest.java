@@ -21,6 +21,7 @@ final class Promise08RightTest {
         takesWhatIsNotZero();
         bindsAsToldInTheText();
         goesFromTheLeft();
+        isThatOfTheTownAlone();
         Check.close();
     }
 
@@ -256,6 +257,23 @@ final class Promise08RightTest {
         valueIs("9 - (3 - 2)", 8);
         valueIs("100 / (10 / 5)", 50);
         valueIs("1 - 1 + 1 - 1 + 1", 1);
+    }
+
+    private static void isThatOfTheTownAlone() {
+        Check.sentence("RIGHT, if rule e is not 0: no rule of before");
+        String[] rules = {"not 1", "1", "not not not 0", "1 and not (1 or 1)", "0", "2 - 1", "not (1 < 2) = 0"};
+        int[] worth = {0, 1, 1, 0, 0, 1, 1};
+        for (int first = 0; first < rules.length; first++) {
+            for (int last = 0; last < rules.length; last++) {
+                Used x = Used.of("place a;rule " + rules[first] + ";");
+                x.town("place a;rule " + rules[first] + ";");
+                x.town("place a;rule " + rules[last] + ";");
+                Check.due("rule " + rules[last] + " behind " + rules[first], x.right(0, 1, 1), worth[last]);
+                x.town("place a;");
+                Check.due("no rule behind " + rules[last], x.right(0, 1, 1), 0);
+                Check.due("no rule behind " + rules[last], x.right(0, 2, 1), 1);
+            }
+        }
     }
 
     private Promise08RightTest() {
