@@ -1229,8 +1229,8 @@ public final class EvenTown {
 
     /** All days that can be, state by state: which is best, and which states stand in any. */
     private static final class Days {
-        /** For each stroke's lawful states the most that the strokes behind can add; else NEVER. */
-        private final int[] table = new int[MOST_STROKES * MOST_STATES];
+        /** Of one stroke alone: for each lawful state the most that the strokes behind can add; else NEVER. */
+        private final int[] table = new int[MOST_STATES];
         /** A bit for each stroke at which all places are right in a state. */
         private final int[] lawful = new int[MOST_STATES];
         private final int[] weight = new int[PAIRS];
@@ -1242,7 +1242,7 @@ public final class EvenTown {
                 return GAP;
             }
             layLawful(day);
-            layTable(day);
+            layTable(day, 1);
             startAtHome(day.town);
             int most = NEVER;
             for (int state = 0; state < day.states; state++) {
@@ -1268,22 +1268,23 @@ public final class EvenTown {
             }
         }
 
-        private void layTable(Day day) {
-            for (int stroke = day.strokes; stroke >= 1; stroke--) {
-                int start = (stroke - 1) * MOST_STATES;
-                if (stroke == day.strokes) {
-                    Arrays.fill(table, start, start + day.states, 0);
-                } else {
-                    System.arraycopy(table, start + MOST_STATES, table, start, day.states);
-                    for (int person = 0; person < day.town.persons.size; person++) {
-                        layWeights(day, stroke + 1, person);
-                        goBack(day, start, person);
-                    }
+        /** Fills the table for a stroke, coming from the last one. */
+        private void layTable(Day day, int first) {
+            Arrays.fill(table, 0, day.states, 0);
+            keepLawful(day, day.strokes);
+            for (int stroke = day.strokes - 1; stroke >= first; stroke--) {
+                for (int person = 0; person < day.town.persons.size; person++) {
+                    layWeights(day, stroke + 1, person);
+                    goBack(day, person);
                 }
-                for (int state = 0; state < day.states; state++) {
-                    if ((lawful[state] >> stroke & 1) == 0) {
-                        table[start + state] = NEVER;
-                    }
+                keepLawful(day, stroke);
+            }
+        }
+
+        private void keepLawful(Day day, int stroke) {
+            for (int state = 0; state < day.states; state++) {
+                if ((lawful[state] >> stroke & 1) == 0) {
+                    table[state] = NEVER;
                 }
             }
         }
@@ -1298,14 +1299,14 @@ public final class EvenTown {
         }
 
         /** Lets one person go: each state gets the best of those that differ in the place of this person alone. */
-        private void goBack(Day day, int start, int person) {
+        private void goBack(Day day, int person) {
             int width = day.stride[person];
             int size = day.town.places.size;
             int block = width * size;
             int blocks = block < 1 ? 0 : day.states / block;
             for (int i = 0; i < blocks; i++) {
                 for (int j = 0; j < width; j++) {
-                    int first = start + i * block + j;
+                    int first = i * block + j;
                     boolean any = false;
                     for (int b = 0; b < size; b++) {
                         line[b] = table[first + b * width];
@@ -1335,7 +1336,8 @@ public final class EvenTown {
             return sum;
         }
 
-        /** Behind worthOf(day): writes the first row of places whose worth that is. */
+        /** Behind worthOf(day): writes the first row of places whose worth that is. The table is laid anew for each
+            stroke: all strokes' tables at once would be most of what an object holds. */
         void layFirstRow(Day day, int worth, int[] row) {
             int rest = worth;
             startAtHome(day.town);
@@ -1346,13 +1348,13 @@ public final class EvenTown {
                     from[person] = day.placeIn(state, person);
                     row[stroke * MOST_PERSONS + person] = from[person];
                 }
+                layTable(day, stroke + 1);
             }
         }
 
         private int firstOf(Day day, int stroke, int rest) {
-            int start = (stroke - 1) * MOST_STATES;
             for (int state = 0; state < day.states; state++) {
-                if (table[start + state] + stepTo(day, stroke, state) == rest) {
+                if (table[state] + stepTo(day, stroke, state) == rest) {
                     return state;
                 }
             }
@@ -1389,7 +1391,7 @@ public final class EvenTown {
 
         private void goAll(Day day) {
             for (int person = 0; person < day.town.persons.size; person++) {
-                goBack(day, 0, person);
+                goBack(day, person);
             }
         }
 
